@@ -886,11 +886,11 @@ public final class StackDesk {
 
         /** The greatest number of steps of a process minus the least one. */
         int stepSpread() {
-            int most = procs[0].steps;
-            int least = procs[0].steps;
-            for (int i = 1; i < processCount && i < procs.length; i++) {
+            int most = 0;
+            int least = 0;
+            for (int i = 0; i < processCount && i < procs.length; i++) {
                 most = Math.max(most, procs[i].steps);
-                least = Math.min(least, procs[i].steps);
+                least = i == 0 ? procs[i].steps : Math.min(least, procs[i].steps);
             }
             return most - least;
         }

@@ -157,6 +157,9 @@ public final class ChangeTest {
         Check.fails("kill(4)", Check.INDEX, () -> desk.kill(4));
         Check.fails("kill(-1)", Check.INDEX, () -> desk.kill(-1));
         Check.same("changes of kill", desk.undo(), 5);
+        StackDesk empty = Check.desk("desk 3;process a:;stack 1 with a;stack 1 at 1;");
+        Check.same("kill with slot 0 empty", empty.kill(0), 0);
+        Check.same("stacks with slot 0 filled", Check.written(empty), "#0 #1");
         StackDesk one = Check.desk("desk 1;process a:;");
         Check.same("kill without a stack", one.kill(0), StackDesk.NONE);
         Check.same("state of the killed", one.process(0, 0), 1);

@@ -87,6 +87,10 @@ public final class TextTest {
         Check.fails("append to 601", Check.STATE, () -> desk.append(0x20000000, 0, 0, 0, 0x20));
         Check.same("append to 600", desk.append(0, 0, 0x00200000, 0, 0), 600);
         Check.fails("append to 601", Check.STATE, () -> desk.append(0, 0, 0, 0, 1));
+        Check.fails("append of a to 601", Check.STATE, () -> desk.append(0x01000000, 0, 0, 0, 0));
+        Check.fails("append of b to 601", Check.STATE, () -> desk.append(0, 0x00010000, 0, 0, 0));
+        Check.fails("append of c to 601", Check.STATE, () -> desk.append(0, 0, 0x00000100, 0, 0));
+        Check.fails("append of d to 601", Check.STATE, () -> desk.append(0, 0, 0, 0x00000001, 0));
         Check.same("append of nothing to 600", desk.append(0, 0, 0, 0, 0), 600);
         Check.same("load of 600 bytes", desk.load(), 1);
         Check.same("slots of 600 bytes", desk.count(0), 2);
@@ -130,6 +134,7 @@ public final class TextTest {
         fine("desk 1;process a:;process b:;process c:;process d:;process e:;process f:;process g:;"
                 + "process h:;", 8);
         fine("desk 1;process a:jump 24 zero 0 jump 024;", 1);
+        fine("desk 1;process azz:;process zaaz:;stack 1 with azz;", 2);
         StackDesk desk = Check.desk("desk 1;process a:push - 7;stack 3 with a - 5 -00006 0;");
         Check.same("push - 7", desk.command(0, 0, 1), -7);
         Check.same("numbers", Check.written(desk), "-5,-6,0@a");

@@ -92,14 +92,20 @@ public final class WouldTest {
         StackDesk desk = Check.desk("desk 1;process a:jump 1 jump 2 jump 3 jump 4 jump 5 halt;process b:jump 0;");
         Check.same("fairest with a short one", desk.fairest(), fairestBySteps(
                 "desk 1;process a turn %:jump 1 jump 2 jump 3 jump 4 jump 5 halt;process b turn %:jump 0;"));
-        String swaps = "desk 1;process a turn % may 0:lay 0 take 0 jump 0;"
-                + "process b turn % may 0:take 0 lay 0 jump 0;process c turn % may 0:swap 0 jump 0;"
-                + "stack 1 with a;stack 1 with c;";
-        Check.same("fairest with swaps", Check.desk(swaps.replace("turn %", "")).fairest(), fairestBySteps(swaps));
-        String three = "desk 1;process a turn % may 0:jump 1 take 0 lay 0 jump 0;"
-                + "process b turn %:jump 1 jump 2 jump 3 jump 4 jump 5 jump 0;"
-                + "process c turn % may 0:lay 0 take 0 jump 0;stack 1 with c;";
-        Check.same("fairest of three", Check.desk(three.replace("turn %", "")).fairest(), fairestBySteps(three));
+        String[] texts = {
+            "desk 1;process a turn % may 0:lay 0 take 0 jump 0;process b turn % may 0:take 0 lay 0 jump 0;"
+                    + "process c turn % may 0:swap 0 jump 0;stack 1 with a;stack 1 with c;",
+            "desk 1;process a turn % may 0:jump 1 take 0 lay 0 jump 0;"
+                    + "process b turn %:jump 1 jump 2 jump 3 jump 4 jump 5 jump 0;"
+                    + "process c turn % may 0:lay 0 take 0 jump 0;stack 1 with c;",
+            "desk 1;process a turn % may 0:lay 0 take 0;process b turn % may 0:take 0 jump 1 take 0;stack 1 with a;",
+            "desk 1;process a turn % may 0:jump 1 lay 0 take 0;process b turn % may 0:take 0 jump 1;stack 1 with a;",
+            "desk 1;process a turn % may 0:jump 1 lay 0 jump 3 take 0 swap 0;"
+                    + "process b turn % may 0:jump 1 take 0 jump 2;stack 1 with a;"};
+        for (String text : texts) {
+            Check.same("fairest of " + text, Check.desk(text.replace("turn %", "")).fairest(), fairestBySteps(text));
+        }
+        Check.same("fairest is 4", Check.desk(texts[4].replace('%', '9')).fairest(), 4);
     }
 
     /** The length that loading the text with each length and running it tells. */
@@ -117,36 +123,40 @@ public final class WouldTest {
         return best;
     }
 
-    /** The steps that were made count, too. */
-    private static void fairBehindSteps() {
-        StackDesk desk = Check.desk("desk 1;process a turn 9:jump 0;process b:jump 1 jump 2 jump 3 jump 4 jump 5 "
-                + "jump 6 jump 7 jump 8 jump 9 jump 10 jump 11 jump 12 jump 13 jump 14 jump 15 halt;");
-        desk.run(1);
-        desk.kill(0);
-        // b makes 16 steps whatever the length, 7 more than a.
-        Check.same("fairest of 16 to 9", desk.fairest(), 1);
-        Check.same("unfair stays", desk.unfair(), 9);
-        desk.setTurn(1, 4);
-        Check.same("length stays", desk.process(1, 5), 4);
-        StackDesk two = Check.desk("desk 2;process a turn 9 may 0:lay 0 take 0 jump 0;"
-                + "process b turn 9 may 0:take 0 lay 0 jump 0;process c:jump 0;stack 1 with a;");
-        two.run(4);
-        int best = 0;
-        int least = Integer.MAX_VALUE;
-        for (int length = 1; length <= 9; length++) {
-            for (int k = 0; k < 3; k++) {
-                two.setTurn(k, length);
-            }
-            two.run(60);
-            if (two.unfair() < least) {
-                least = two.unfair();
-                best = length;
-            }
-            for (int k = 0; k < 4; k++) {
-                two.undo();
-            }
+    /** A desk where a is ended behind so many steps, and b and maybe c have made none. */
+    private static StackDesk behind(int steps, String others) {
+        StackDesk desk = Check.desk("desk 1;process a turn 9:jump 0;process b turn 2:jump 0;" + others);
+        for (int k = 1; k < desk.count(1); k++) {
+            desk.kill(k);
         }
-        Check.same("fairest behind steps", two.fairest(), best);
+        desk.run(steps / 9);
+        desk.setTurn(0, 1);
+        if (steps % 9 != 0) {
+            desk.run(steps % 9);
+        }
+        desk.kill(0);
+        for (int k = 1; k < desk.count(1); k++) {
+            desk.wake(k);
+        }
+        Check.same("unfair of " + steps, desk.unfair(), steps);
+        return desk;
+    }
+
+    /** The steps that were made count, too: b makes 60 times the length more. */
+    private static void fairBehindSteps() {
+        for (int length = 1; length <= 9; length++) {
+            Check.same("fairest of 60 times " + length, behind(60 * length, "").fairest(), length);
+        }
+        Check.same("fairest between 8 and 9", behind(510, "").fairest(), 8);
+        Check.same("fairest above the middle", behind(511, "").fairest(), 9);
+        Check.same("fairest below the middle", behind(509, "").fairest(), 8);
+        Check.same("fairest of 61 turns would be 8", behind(514, "").fairest(), 9);
+        Check.same("fairest of 59 turns would be 9", behind(505, "").fairest(), 8);
+        Check.same("fairest with two", behind(210, "process c turn 5:jump 0;").fairest(), 7);
+        StackDesk desk = behind(100, "");
+        desk.fairest();
+        Check.same("length stays", desk.process(1, 5), 2);
+        Check.same("unfair stays", desk.unfair(), 100);
     }
 
     private static void best() {
@@ -182,6 +192,9 @@ public final class WouldTest {
         // With 3 a is faulty all the same, but b ends.
         desk = Check.desk("desk 4;process a:lay 3 lay 1;process b may 3:take 3;process d:jump 0;stack 1 with a;");
         Check.same("bestSlot for another one", desk.bestSlot(0), 3);
+        // The slots that a may use already stay.
+        desk = Check.desk("desk 3;process a may 2:take 2 lay 1;process d:jump 0;stack 1 at 2;");
+        Check.same("bestSlot beside another one", desk.bestSlot(0), 1);
         // With 0 a would end, but b, which ends now, would wait for ever.
         desk = Check.desk("desk 1;process a:take 0;process b may 0:take 0;process d:jump 0;stack 1 at 0;");
         Check.same("bestSlot that harms another one", desk.bestSlot(0), StackDesk.NONE);
