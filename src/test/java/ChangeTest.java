@@ -16,42 +16,6 @@ public final class ChangeTest {
         Check.end();
     }
 
-    /** All that can be asked of a desk, but for what undo does not bring back. */
-    private static String all(StackDesk desk) {
-        StringBuilder text = new StringBuilder();
-        for (int what = 0; what <= 10; what++) {
-            text.append(' ').append(desk.count(what));
-        }
-        for (int k = 0; k < desk.count(1); k++) {
-            for (int what = 0; what <= 10; what++) {
-                text.append(' ').append(desk.process(k, what));
-            }
-            for (int c = 0; c < desk.process(k, 4); c++) {
-                text.append(' ').append(desk.command(k, c, 0)).append(' ').append(desk.command(k, c, 1));
-            }
-            for (int back = 0; back < 20; back++) {
-                text.append(' ').append(desk.said(k, back));
-            }
-        }
-        for (int k = 0; k < desk.count(2); k++) {
-            for (int what = 0; what <= 4; what++) {
-                text.append(' ').append(desk.stack(k, what));
-            }
-            for (int depth = 0; depth < 16; depth++) {
-                text.append(' ').append(desk.number(k, depth));
-            }
-        }
-        for (int slot = 0; slot < desk.count(0); slot++) {
-            text.append(' ').append(desk.slot(slot));
-        }
-        for (int back = 0; back < desk.count(8); back++) {
-            for (int what = 0; what <= 3; what++) {
-                text.append(' ').append(desk.trace(back, what));
-            }
-        }
-        return text.append(' ').append(desk.waitShare()).toString();
-    }
-
     private static void runs() {
         StackDesk desk = Check.desk("desk 1;process a:jump 0;process b turn 1:jump 1 halt;");
         Check.same("run(1)", desk.run(1), 1);
@@ -195,30 +159,30 @@ public final class ChangeTest {
         StackDesk desk = Check.desk("desk 1;process a:;stack 16 with a;");
         String[] states = new String[13];
         for (int i = 0; i < 13; i++) {
-            states[i] = all(desk);
+            states[i] = Check.state(desk);
             if (i < 12) {
                 desk.put(0, i);
             }
         }
         for (int i = 0; i < 8; i++) {
             Check.same("undo " + i, desk.undo(), 7 - i);
-            Check.same("the desk behind undo " + i, all(desk), states[11 - i]);
+            Check.same("the desk behind undo " + i, Check.state(desk), states[11 - i]);
         }
         Check.fails("a 9th undo", Check.STATE, () -> desk.undo());
-        Check.same("the desk behind a 9th undo", all(desk), states[4]);
+        Check.same("the desk behind a 9th undo", Check.state(desk), states[4]);
         desk.put(0, 100);
         desk.put(0, 101);
         Check.same("undo behind new changes", desk.undo(), 1);
         desk.put(0, 102);
         Check.same("undo behind another one", desk.undo(), 1);
         Check.same("undo of the first new one", desk.undo(), 0);
-        Check.same("the desk then", all(desk), states[4]);
+        Check.same("the desk then", Check.state(desk), states[4]);
         Check.fails("no undo is left", Check.STATE, () -> desk.undo());
     }
 
     private static void undone(StackDesk desk, String what, String before) {
         desk.undo();
-        Check.same("the desk behind undo of " + what, all(desk), before);
+        Check.same("the desk behind undo of " + what, Check.state(desk), before);
     }
 
     private static void undoOfEachChange() {
@@ -227,7 +191,7 @@ public final class ChangeTest {
         desk.run(5);
         desk.save(0);
         desk.run(2);
-        String before = all(desk);
+        String before = Check.state(desk);
         desk.run(300);
         undone(desk, "run", before);
         desk.allow(1, 1, true);
@@ -288,21 +252,21 @@ public final class ChangeTest {
         StackDesk desk = Check.desk("desk 1;process a turn 1:jump 0;stack 3 with a;");
         desk.run(4);
         desk.save(0);
-        String four = all(desk);
+        String four = Check.state(desk);
         desk.run(3);
         desk.save(1);
-        String seven = all(desk);
+        String seven = Check.state(desk);
         desk.put(0, 5);
         Check.same("restore(0)", desk.restore(0), 4);
-        Check.same("the desk of 0", all(desk), four);
+        Check.same("the desk of 0", Check.state(desk), four);
         Check.same("restore(1)", desk.restore(1), 7);
-        Check.same("the desk of 1", all(desk), seven);
+        Check.same("the desk of 1", Check.state(desk), seven);
         desk.run(2);
         desk.save(0);
-        String nine = all(desk);
+        String nine = Check.state(desk);
         desk.kill(0);
         Check.same("restore(0) of the later one", desk.restore(0), 9);
-        Check.same("the desk of 0 then", all(desk), nine);
+        Check.same("the desk of 0 then", Check.state(desk), nine);
         Check.same("restore(0) once more", desk.restore(0), 9);
         Check.fails("save(2)", Check.INDEX, () -> desk.save(2));
         Check.fails("save(-1)", Check.INDEX, () -> desk.save(-1));

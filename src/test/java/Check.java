@@ -1,3 +1,5 @@
+import java.util.function.IntConsumer;
+
 /** What all tests need: answers against the due ones, and desks from texts. */
 final class Check {
     static final String INDEX = "IndexOutOfBoundsException";
@@ -49,6 +51,33 @@ final class Check {
         }
     }
 
+    /** The call throws an IndexOutOfBoundsException for each number that is not 0 to below the bound. */
+    static void outside(String what, int bound, IntConsumer call) {
+        int[] numbers = {-1, -2, Integer.MIN_VALUE, Integer.MIN_VALUE + 1, bound, bound + 1, bound + 2,
+            bound + 7, 8, 12, 16, 24, 32, 33, 40, 41, 255, 256, 65536, Integer.MAX_VALUE - 1, Integer.MAX_VALUE};
+        for (int number : numbers) {
+            if (number < 0 || number >= bound) {
+                fails(what + " of number " + number, INDEX, () -> call.accept(number));
+            }
+        }
+        for (int number = 0; number < bound; number++) {
+            call.accept(number);
+        }
+    }
+
+    /** The call throws an IllegalArgumentException for each number that is not least to greatest. */
+    static void outOfRange(String what, int least, int greatest, IntConsumer call) {
+        int[] numbers = {Integer.MIN_VALUE, Integer.MIN_VALUE + 1, -greatest, least - 1, least - 2,
+            greatest + 1, greatest + 2, Integer.MAX_VALUE - 1, Integer.MAX_VALUE};
+        for (int number : numbers) {
+            if (number < least || number > greatest) {
+                fails(what + " with " + number, ARGUMENT, () -> call.accept(number));
+            }
+        }
+        call.accept(least);
+        call.accept(greatest);
+    }
+
     /** Ends the program, with 1 if an answer was wrong. */
     static void end() {
         System.exit(wrong == 0 ? 0 : 1);
@@ -95,6 +124,42 @@ final class Check {
             text.append((char) desk.writtenByte(i));
         }
         return text.toString();
+    }
+
+    /** All that can be asked of a desk, but for what undo does not bring back. */
+    static String state(StackDesk desk) {
+        StringBuilder text = new StringBuilder();
+        for (int what = 0; what <= 10; what++) {
+            text.append(' ').append(desk.count(what));
+        }
+        for (int k = 0; k < desk.count(1); k++) {
+            for (int what = 0; what <= 10; what++) {
+                text.append(' ').append(desk.process(k, what));
+            }
+            for (int c = 0; c < desk.process(k, 4); c++) {
+                text.append(' ').append(desk.command(k, c, 0)).append(' ').append(desk.command(k, c, 1));
+            }
+            for (int back = 0; back < 20; back++) {
+                text.append(' ').append(desk.said(k, back));
+            }
+        }
+        for (int k = 0; k < desk.count(2); k++) {
+            for (int what = 0; what <= 4; what++) {
+                text.append(' ').append(desk.stack(k, what));
+            }
+            for (int depth = 0; depth < 16; depth++) {
+                text.append(' ').append(desk.number(k, depth));
+            }
+        }
+        for (int slot = 0; slot < desk.count(0); slot++) {
+            text.append(' ').append(desk.slot(slot));
+        }
+        for (int back = 0; back < desk.count(8); back++) {
+            for (int what = 0; what <= 3; what++) {
+                text.append(' ').append(desk.trace(back, what));
+            }
+        }
+        return text.append(' ').append(desk.waitShare()).toString();
     }
 
     /** The state of a process: state, fault, place. */

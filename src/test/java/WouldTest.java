@@ -210,7 +210,7 @@ public final class WouldTest {
         StackDesk desk = Check.desk("desk 2;process a turn 2 may 0:push 1 dup say jump 0;process b:take 1;"
                 + "process c may 0:take 0;stack 9 with a;stack 2 at 1 5;");
         desk.run(2);
-        String before = all(desk);
+        String before = Check.state(desk);
         desk.turnsLeft();
         desk.wouldSay(0, 300);
         desk.wouldFail(1);
@@ -218,24 +218,7 @@ public final class WouldTest {
         desk.bestSlot(1);
         desk.whyStuck(0);
         desk.helpers(2);
-        Check.same("the desk behind questions", all(desk), before);
+        Check.same("the desk behind questions", Check.state(desk), before);
         Check.same("questions are no changes", desk.undo(), 1);
-    }
-
-    private static String all(StackDesk desk) {
-        StringBuilder text = new StringBuilder(Check.written(desk));
-        for (int what = 0; what <= 10; what++) {
-            text.append(' ').append(desk.count(what));
-        }
-        for (int k = 0; k < desk.count(1); k++) {
-            for (int what = 0; what <= 10; what++) {
-                text.append(' ').append(desk.process(k, what));
-            }
-            text.append(' ').append(desk.said(k, 0));
-        }
-        for (int back = 0; back < desk.count(8); back++) {
-            text.append(' ').append(desk.trace(back, 0)).append(desk.trace(back, 3));
-        }
-        return text.toString();
     }
 }
